@@ -189,6 +189,7 @@ public final class PromiseTest {
         taken("", 0);
         taken("    ", 0);
         taken("law 2;", 1);
+        taken("law 0;fee 0;", 2);
         taken("law2;fee09;", 2);
         taken("  law   1  ;  fee 0 ;  ", 2);
         taken("spend 0 11;talk 0 1 0;coin 3 1clipped;one plain 0 0;one taxman 9 50;", 5);
@@ -578,6 +579,9 @@ public final class PromiseTest {
         SilenceCoin x = of("one plain 0 0;one plain 0 0;one deaf 0 0;talk 11 0 1;talk 4 0 2;talk 0 1 0;");
         due("at 11", x.learns(0, 1), 11);
         due("at 0", x.learns(1, 0), 0);
+        due("knows it behind 0", x.knows(1, 0), 3);
+        x.speak(0, 0, 1);
+        due("at 0, too", x.learns(0, 1), 0);
         due("deaf", x.learns(0, 2), NONE);
         due("himself", x.learns(1, 1), 0);
         due("deaf himself", x.learns(2, 2), 0);
@@ -703,6 +707,12 @@ public final class PromiseTest {
         }
         due("the best", x.raid(0), 4);
         due("the first of several", x.raid(1), 4);
+        x.undo(2);
+        due("the best", x.raid(0), 5);
+        due("the first of several", x.raid(1), 0);
+        SilenceCoin y = of("one beggar 0 0;coin 3 0;coin 3 0;coin 3 0;coin 1 0;spend 0 0;spend 1 4;spend 2 8;");
+        due("silent in all hours", y.raid(0), 0);
+        due("the first of all", y.raid(1), 0);
         for (int w : new int[] {-1, 2, 9, 22, LOW, HIGH}) {
             due("raid " + w, x.raid(w), BAD);
         }
@@ -726,6 +736,7 @@ public final class PromiseTest {
         due("1 at least", y.settle(50, 0), 1);
         due("its round", y.settle(50, 1), 50);
         due("at once", y.settle(1, 1), 1);
+        due("the longest way", y.settle(99, 1), 99);
         SilenceCoin z = of("one plain 5 50;one plain 5 50;coin 3 0;coin 2 1;");
         due("goes round", z.settle(16, 0), NONE);
         due("goes round", z.settle(17, 1), NONE);
