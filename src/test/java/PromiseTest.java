@@ -1,42 +1,18 @@
-import java.nio.charset.StandardCharsets;
-
 /** One method a promise: ordinary calls, the edges that the document names, wrong inputs. */
 public final class PromiseTest {
     private static final int BAD = -1, STATE = -2, FULL = -3, NONE = -4;
     private static final int LOW = Integer.MIN_VALUE, HIGH = Integer.MAX_VALUE;
-    private static int wrong = 0;
-    private static int asked = 0;
 
     private static void due(String call, long got, long want) {
-        asked++;
-        if (got != want) {
-            wrong++;
-            System.out.println(call + " answered " + got + ", due is " + want);
-        }
+        Check.due(call, got, want);
     }
 
-    /** Puts a text on the tape; blanks fill the last eight bytes and are cut off again. */
     private static void put(SilenceCoin x, String text) {
-        byte[] bytes = text.getBytes(StandardCharsets.ISO_8859_1);
-        int before = x.count(4);
-        for (int i = 0; i < bytes.length; i += 8) {
-            long v = 0;
-            for (int j = i; j < i + 8; j++) {
-                v = v << 8 | (j < bytes.length ? bytes[j] & 255 : 32);
-            }
-            x.feed(v);
-        }
-        x.end(before + bytes.length);
+        Check.put(x, text);
     }
 
     private static SilenceCoin of(String text) {
-        SilenceCoin x = new SilenceCoin();
-        put(x, text);
-        int answer = x.text();
-        if (answer < 0) {
-            due("text of " + text, answer, 0);
-        }
-        return x;
+        return Check.of(text);
     }
 
     private static void taken(String text, int lines) {
@@ -66,7 +42,7 @@ public final class PromiseTest {
     }
 
     private static String many(String line, int n) {
-        return line.repeat(n);
+        return Check.many(line, n);
     }
 
     public static void main(String[] args) {
@@ -112,10 +88,7 @@ public final class PromiseTest {
         read();
         torn();
         count();
-        System.out.println(asked + " answers asked, " + wrong + " not as due");
-        if (wrong != 0) {
-            System.exit(1);
-        }
+        Check.close();
     }
 
     private static void newObject() {
