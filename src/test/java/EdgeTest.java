@@ -1,3 +1,6 @@
+import java.util.ArrayList;
+import java.util.List;
+
 /** Promises 6 to 33: each sentence that names a boundary case, at its edges. */
 public final class EdgeTest {
     private static final int BAD = Check.BAD, STATE = Check.STATE, FULL = Check.FULL, NONE = Check.NONE;
@@ -64,6 +67,8 @@ public final class EdgeTest {
         untest();
         fakes();
         nextTest();
+        moreOfOneThanOfTheOther();
+        questionsInAnyOrder();
         Check.close();
     }
 
@@ -552,6 +557,9 @@ public final class EdgeTest {
         between.spend(0, 0);
         due("a SPENT one is not", between.hush(0, 2, 0), 1);
         due("his HOUR", between.hush(0, 2, 1), 4);
+        SilenceCoin more = Check.of(plains(2) + "coin 1 1;coin 1 1;spend 0 9;talk 2 0 1;talk 9 0 1;talk 9 0 1;");
+        due("with what is SPENT already", more.hush(0, 1, 0), 1);
+        due("his HOUR", more.hush(0, 1, 1), 2);
         SilenceCoin law2 = Check.of("law 2;" + plains(2) + "coin 1 0;talk 3 0 1;");
         due("LAW 2: by who speaks", law2.hush(0, 1, 0), 0);
         due("LAW 2: his HOUR", law2.hush(0, 1, 1), 3);
@@ -826,6 +834,9 @@ public final class EdgeTest {
         late.spend(3, 11);
         due("none is left", late.raid(0), 0);
         due("the first of all", late.raid(1), 0);
+        SilenceCoin ever = Check.of("one beggar 0 0;" + Check.many("coin 3 0;", 4) + "spend 0 0;spend 1 4;spend 2 8;");
+        due("SILENT in all HOURS", ever.raid(0), 0);
+        due("the first of all", ever.raid(1), 0);
         SilenceCoin two = Check.of(plains(2) + "coin 1 0;coin 2 0;coin 3 1;spend 0 0;");
         due("the best", two.raid(0), 5);
         due("the first of several", two.raid(1), 1);
@@ -1065,6 +1076,104 @@ public final class EdgeTest {
             int of = k;
             Check.bounds("next", ALL, 0, 1, (z, v) -> z.next(of, v));
             Check.bounds("next", NOTHING, 0, 1, (z, v) -> z.next(of, v));
+        }
+    }
+
+    private static void moreOfOneThanOfTheOther() {
+        says("Terms: BAD: there is no such ONE, COIN, TALK, where there are more of one than of the other");
+        int[][] counts = {{6, 1, 3}, {1, 6, 0}, {2, 3, 10}, {3, 2, 1}, {6, 0, 10}, {4, 6, 5}};
+        for (int[] n : counts) {
+            Check.Make town = () -> Check.of(plains(n[0]) + Check.many("coin 2 0;", n[1]) + Check.many("talk 0 0 1;", n[2]));
+            int lastOne = n[0] - 1;
+            int lastCoin = n[1] - 1;
+            Check.bounds("one", town, 0, lastOne, (x, p) -> x.one(p, 0));
+            Check.bounds("quiet", town, 0, lastOne, SilenceCoin::quiet);
+            Check.bounds("knows", town, 0, lastOne, (x, p) -> x.knows(p, 0));
+            Check.bounds("learns", town, 0, lastOne, (x, p) -> x.learns(p, 0));
+            Check.bounds("learns", town, 0, lastOne, (x, q) -> x.learns(0, q));
+            Check.bounds("hush", town, 1, lastOne, (x, q) -> x.hush(0, q, 0));
+            Check.bounds("may", town, 1, lastOne, (x, q) -> x.may(0, 0, q));
+            Check.bounds("speak", town, 1, lastOne, (x, p) -> x.speak(0, p, 0));
+            Check.bounds("hear", town, 0, lastOne, (x, p) -> x.hear(p, true));
+            Check.bounds("funeral", town, 0, (1 << n[0]) - 1, (x, some) -> x.funeral(some, 1, 0));
+            Check.bounds("coin", town, 0, lastCoin, (x, c) -> x.coin(c, 0));
+            Check.bounds("give", town, 0, lastCoin, (x, c) -> x.give(c, 0));
+            Check.bounds("clip", town, 0, lastCoin, SilenceCoin::clip);
+            Check.bounds("spend", town, 0, lastCoin, (x, c) -> x.spend(c, 0));
+            Check.bounds("undo", town, 0, lastCoin, SilenceCoin::undo);
+            Check.bounds("test", town, 1, (1 << n[1]) - 1, (x, some) -> x.test(some, true));
+            Check.bounds("talk", town, 0, n[2] - 1, (x, k) -> x.talk(k, 0));
+            allAreSeen(town.make(), n);
+        }
+    }
+
+    private static void allAreSeen(SilenceCoin x, int[] n) {
+        due("PEOPLE", x.rule(0), n[0]);
+        due("COINS", x.rule(1), n[1]);
+        due("TALKS", x.rule(2), n[2]);
+        due("first", x.first(), (1 << n[0]) - 1);
+        due("said", x.said(), (1 << n[2]) - 1);
+        due("WORTHS", x.count(6), 2 * n[1]);
+        due("sets of one", x.fakes(1, 0), n[1]);
+        int last = n[0] - 1;
+        for (int c = 0; c < n[1]; c++) {
+            x.give(c, last);
+        }
+        due("raid of the last one", x.raid(0), n[1] > 0 ? 2 : 0);
+        due("funeral of the last one", x.funeral(1 << last, 2, 0), n[1] > 0 ? 2 : NONE);
+        for (int c = 0; c < n[1]; c++) {
+            x.spend(c, 11);
+        }
+        due("SPENT", x.count(0), n[1]);
+        due("none is left", x.count(6), 0);
+        due("SILENT", x.silent(11), n[1] > 0 ? 1 << last : 0);
+    }
+
+    private static List<Check.Call> questions() {
+        List<Check.Call> all = new ArrayList<>();
+        for (int v = 0; v < 4; v++) {
+            int k = v;
+            all.add(x -> x.next(k, 0));
+            all.add(x -> x.next(k, 1));
+            for (int w = 0; w < 4; w++) {
+                int what = w;
+                all.add(x -> x.fakes(k, what));
+            }
+            for (int q = 0; q < 6; q++) {
+                int to = q;
+                all.add(x -> x.knows(k, 2 * to));
+                all.add(x -> x.learns(k, to));
+                all.add(x -> x.hush(k, to, 0));
+                all.add(x -> x.hush(k, to, 1));
+                all.add(x -> x.funeral(1 << k | 1 << to, 1 + k, 0));
+                all.add(x -> x.funeral(1 << k | 1 << to, 1 + k, 10 + to));
+            }
+        }
+        all.add(SilenceCoin::first);
+        all.add(SilenceCoin::said);
+        return all;
+    }
+
+    private static void questionsInAnyOrder() {
+        says("an answer tells what there is, whatever was asked ahead of it");
+        Check.Make town = () -> {
+            SilenceCoin x = Check.of("law 2;" + SIX_ONES + SIX_COINS + "spend 1 4;talk 0 0 1;talk 3 1 3;talk 5 3 4;"
+                + "talk 5 4 5;talk 11 5 0;");
+            x.test(28, true);
+            x.hear(3, true);
+            return x;
+        };
+        List<Check.Call> all = questions();
+        SilenceCoin forth = town.make();
+        SilenceCoin back = town.make();
+        int[] answers = new int[all.size()];
+        for (int i = all.size() - 1; i >= 0; i--) {
+            answers[i] = all.get(i).on(back);
+        }
+        for (int i = 0; i < all.size(); i++) {
+            int alone = all.get(i).on(town.make());
+            due("question " + i + " asked forth", all.get(i).on(forth), alone);
+            due("question " + i + " asked back", answers[i], alone);
         }
     }
 }

@@ -1,3 +1,6 @@
+import java.util.ArrayList;
+import java.util.List;
+
 /** Promises 1 to 5 and what the document's Terms say of texts: each sentence at its edges. */
 public final class TextEdgeTest {
     private static final String[] KINDS = {"plain", "gossip", "deaf", "beggar", "taxman"};
@@ -381,7 +384,17 @@ public final class TextEdgeTest {
         faulty(";", 2, 0);
         faulty("1", 2, 0);
         faulty("99", 2, 0);
+        for (String name : new String[] {"law", "fee", "one", "coin", "spend", "talk"}) {
+            for (String other : almost(name)) {
+                faulty(other + " 1 1 1;", 2, 0);
+            }
+        }
         Check.says("Terms: 2 a NAME that is no K");
+        for (String kind : KINDS) {
+            for (String other : almost(kind)) {
+                faulty("one " + other + " 1 1;", 2, 4);
+            }
+        }
         for (String name : new String[] {"p", "plai", "plains", "gossi", "gossips", "dea", "deaff", "begga", "beggars",
             "taxma", "taxmann", "one", "law", "clipped", "king"}) {
             faulty("one " + name + " 1 1;", 2, 4);
@@ -392,6 +405,9 @@ public final class TextEdgeTest {
             due(KINDS[k], taken("one " + KINDS[k] + " 0 0;", 1).one(0, 0), k);
         }
         Check.says("Terms: 2 a NAME that is not clipped");
+        for (String other : almost("clipped")) {
+            faulty("coin 1 0 " + other + ";", 2, 9);
+        }
         for (String name : new String[] {"c", "clip", "clippe", "clippedd", "coin", "law", "plain"}) {
             faulty("coin 1 0 " + name + ";", 2, 9);
         }
@@ -413,6 +429,20 @@ public final class TextEdgeTest {
             faulty(b + " 1;", 2, b.length() + 1);
             faulty(b + " law;", 2, b.length() + 1);
         }
+    }
+
+    /** The name with another letter in each place, with one less and with one more. */
+    private static List<String> almost(String name) {
+        List<String> others = new ArrayList<>();
+        for (int i = 0; i < name.length(); i++) {
+            char other = name.charAt(i) == 'z' ? 'a' : (char) (name.charAt(i) + 1);
+            others.add(name.substring(0, i) + other + name.substring(i + 1));
+            others.add(name.substring(0, i) + name.substring(i + 1));
+            others.add(name.substring(0, i) + "e" + name.substring(i));
+        }
+        others.add(name + "e");
+        others.add(name + name);
+        return others;
     }
 
     private static void ends() {
@@ -525,6 +555,17 @@ public final class TextEdgeTest {
         faulty("talk 11 6 6;", 3, 8);
         faulty("talk 11 5 5", 4, 10);
         faulty("talk 11 5 6#", 3, 10);
+        for (String[] line : new String[][] {{"law", "1", ";"}, {"fee", "1", ";"}, {"one", "deaf", "1", "1", ";"},
+            {"coin", "1", "0", "clipped", ";"}, {"coin", "1", "0", ";"}, {"spend", "1", "0", ";"},
+            {"talk", "1", "0", "1", ";"}}) {
+            StringBuilder b = new StringBuilder();
+            for (String token : line) {
+                faulty(b + "#;", 1, b.length());
+                faulty(b + "000;", 1, b.length());
+                faulty(b + "# ;coin 1 0;", 1, b.length());
+                b.append(token).append(' ');
+            }
+        }
         faulty("law 1;law 3#", 4, 6);
         faulty(Check.many("one deaf 0 0;", 6) + "one king 99 99#", 5, 78);
     }
