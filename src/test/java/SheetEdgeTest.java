@@ -439,6 +439,18 @@ public final class SheetEdgeTest {
                 }
             }
         }
+        says("39: n (0 to 13): where none is to be read, the machine finds nothing");
+        for (int lane = 0; lane < 3; lane++) {
+            SilenceCoin x = six();
+            x.sheet(0, 1, 3);
+            x.read(1, 0, 0, 1);
+            due("none of another lane", x.read(0, lane, 0, 0), 0);
+            due("torn", x.torn(), 0);
+            x.read(1, 0, 0, 1);
+            due("none of nothing", x.read(1, lane, 0, 0), 0);
+            due("torn", x.torn(), 0);
+        }
+        says("39: Terms: 2 INDEX, 3 CAST (another lane)");
         SilenceCoin none = six();
         none.sheet(0, 1, 0);
         due("a row of none as another lane", none.read(0, 0, 0, 1), 0);
