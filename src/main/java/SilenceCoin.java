@@ -1127,6 +1127,7 @@ public final class SilenceCoin {
 
     /** Finds the cheapest gifts of coins by trying them coin by coin, in the order of the document. */
     private static final class Funeral {
+        private static final int NO_WAY = MOST_COINS * (MOST_WORTH + MOST_FEE) + 1;
         int bestCost;
         final int[] bestTo = new int[MOST_COINS];
         private final Town town;
@@ -1141,9 +1142,9 @@ public final class SilenceCoin {
             for (int p = 0; p < MOST_PEOPLE; p++) {
                 need[p] = hasBit(some, p) ? n : 0;
             }
-            bestCost = Integer.MAX_VALUE;
+            bestCost = NO_WAY;
             giveFrom(0, 0);
-            return bestCost != Integer.MAX_VALUE;
+            return bestCost != NO_WAY;
         }
 
         private void giveFrom(int c, int cost) {

@@ -10,7 +10,10 @@ import java.util.TreeSet;
 /** Runs by a seed on fresh objects: each answer is held against a plain second writing of the document. */
 public final class ModelTest {
     private static final int BAD = -1, STATE = -2, FULL = -3, NONE = -4;
-    private static final int RUNS = 3000, CALLS = 500;
+    /** What an object answers behind its 512th call is free, so that no run asks for more. */
+    private static final int RUNS = 12000, MOST_CALLS = 512;
+    /** A step (a text of 40 feeds, then the rules), and behind all steps every coin and talk. */
+    private static final int STEP = 40 + 5 + 5, LAST = 6 * 5 + 10 * 4;
 
     static final class One {
         int kind, wish, purse;
@@ -808,6 +811,7 @@ public final class ModelTest {
     private static Random random;
     private static final StringBuilder trace = new StringBuilder();
     private static int calls = 0;
+    private static int callsOfRun = 0;
 
     /** A number mostly from 0 up to a bound, now and then beside it or far from it. */
     private static int near(int most) {
@@ -892,6 +896,7 @@ public final class ModelTest {
 
     private static void due(String call, int got, int want) {
         calls++;
+        callsOfRun++;
         trace.append(call).append(" -> ").append(got).append('\n');
         if (got != want) {
             System.out.println(trace);
@@ -900,22 +905,19 @@ public final class ModelTest {
         }
     }
 
-    private static int putText(SilenceCoin x, ModelTest m, String text) {
+    private static void putText(SilenceCoin x, ModelTest m, String text) {
         byte[] bytes = text.getBytes(StandardCharsets.ISO_8859_1);
         trace.append("text: ").append(text).append('\n');
-        int n = 0;
         for (int i = 0; i < bytes.length; i += 8) {
             long v = 0;
             for (int j = i; j < i + 8; j++) {
                 v = v << 8 | (j < bytes.length ? bytes[j] & 255 : 32);
             }
             due("feed(" + v + ")", x.feed(v), m.feed(v));
-            n++;
         }
         due("end", x.end(bytes.length), m.end(bytes.length));
         due("text()", x.text(), m.text());
         due("fault()", x.fault(), m.fault);
-        return n + 3;
     }
 
     private static void call(SilenceCoin x, ModelTest m) {
@@ -993,12 +995,12 @@ public final class ModelTest {
         trace.append("run ").append(seed).append('\n');
         SilenceCoin x = new SilenceCoin();
         ModelTest m = new ModelTest();
-        int left = CALLS - putText(x, m, anyText());
-        for (; left > 60; left--) {
+        callsOfRun = 0;
+        putText(x, m, anyText());
+        while (callsOfRun + STEP + LAST <= MOST_CALLS) {
             if (pick(80) == 0) {
-                x.end(0);
-                m.end(0);
-                left -= putText(x, m, anyText());
+                due("end 0", x.end(0), m.end(0));
+                putText(x, m, anyText());
             } else {
                 call(x, m);
             }
@@ -1015,6 +1017,10 @@ public final class ModelTest {
             for (int w = 0; w < 4; w++) {
                 due("talk " + k + " " + w, x.talk(k, w), m.talk(k, w));
             }
+        }
+        if (callsOfRun > MOST_CALLS) {
+            System.out.println("run " + seed + " has " + callsOfRun + " calls");
+            System.exit(1);
         }
     }
 

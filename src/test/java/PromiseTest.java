@@ -797,9 +797,12 @@ public final class PromiseTest {
     }
 
     private static void chatter() {
-        SilenceCoin x = of("one plain 0 0;one plain 0 0;one taxman 0 0;coin 3 0;coin 3 1;coin 3 1;coin 3 0;"
-            + "spend 0 0;spend 1 2;spend 2 6;spend 3 9;");
+        String town = "one plain 0 0;one plain 0 0;one taxman 0 0;coin 3 0;coin 3 1;coin 3 1;coin 3 0;"
+            + "spend 0 0;spend 1 2;spend 2 6;spend 3 9;";
+        SilenceCoin x = of(town);
         for (int seed : new int[] {0, 1, -1, 77, LOW, HIGH}) {
+            // anew for each seed: a hundred and more calls of may() are asked by it
+            x = of(town);
             for (int law = 0; law < 3; law++) {
                 x.law(law);
                 due("chatter " + seed, x.chatter(seed, 60), chatterDue(x, seed, 60));
